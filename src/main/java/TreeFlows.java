@@ -17,7 +17,7 @@ public final class TreeFlows {
     private static final int IMAGES = 3;
     private static final int PAST_KEPT = 12;
 
-    // The ROOT has a fixed place behind all points that there may be; told() gives its number by the document.
+    // The ROOT has a fixed place behind all points that there may be; toldNode() gives its number by the document.
     private static final int ROOT = MOST_POINTS;
     private static final int NODES = MOST_POINTS + 1;
     // An edge is an arc (0 to 13) or a loan (14 and its point): rooms, prices and ways treat both alike.

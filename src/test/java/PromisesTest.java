@@ -18,6 +18,7 @@ public final class PromisesTest {
         test.whatThereIs();
         test.whatIsBest();
         test.kept();
+        test.farNumbers();
         System.out.println(test.checked + " answers looked at, " + test.wrong + " wrong");
         if (test.wrong != 0) {
             System.exit(1);
@@ -164,6 +165,51 @@ public final class PromisesTest {
         yes("point(" + point + "," + what + ") throws", thrown);
     }
 
+    /** Numbers far outside are refused like those just outside. */
+    private void farNumbers() {
+        promise = "far numbers";
+        TreeFlows x = best(THREE);
+        x.image(0);
+        for (int far : new int[] {Integer.MIN_VALUE, Integer.MIN_VALUE + 9, -100000, 100000, Integer.MAX_VALUE}) {
+            due("pivots", x.pivots(far), -1);
+            no("rule", x.rule(far));
+            no("shift", x.shift(far, 0, 1) || x.shift(0, far, 1) || x.shift(0, 1, far));
+            no("block", x.block(far, false) || x.block(far, true));
+            no("widen", x.widen(far, 1) || x.widen(0, far));
+            no("charge", x.charge(far, 1) || x.charge(0, far));
+            due("grid", x.grid(far), -1);
+            dueNoArc(x, far, 0);
+            dueNoArc(x, 0, far);
+            dueNoPoint(x, far, 0);
+            dueNoPoint(x, 0, far);
+            due("thread", x.thread(far), -1);
+            due("path", x.path(far, 0, 0), -1000);
+            due("path", x.path(0, far, 0), -1000);
+            due("path", x.path(0, 1, far), -1000);
+            due("past", x.past(far, 0), -1);
+            due("past", x.past(0, far), -1);
+            due("ledger", x.ledger(far, false), -1000);
+            due("wide", x.wide(far, 0), -1);
+            due("wide", x.wide(0, far), -1);
+            due("trip", x.trip(far, 0), -1);
+            due("trip", x.trip(0, far), -1);
+            due("trip", x.trip(-1, far), -1);
+            due("apart", x.apart(far), -1);
+            due("span", x.span(far, true), -1000);
+            due("steps", x.steps(far), -1);
+            due("worth", x.worth(far, 0), -1000000);
+            due("worth", x.worth(0, far), -1000000);
+            due("toll", x.toll(far, 0), -1000000);
+            due("toll", x.toll(0, far), -1000000);
+            no("image", x.image(far));
+            no("again", x.again(far));
+        }
+        due("grid(11)", x.grid(11), 1);
+        x.cold();
+        due("next", x.next(Integer.MAX_VALUE), -1);
+        due("next", x.next(Integer.MIN_VALUE), -1);
+    }
+
     // ---- texts
 
     private void newObject() {
@@ -251,6 +297,11 @@ public final class PromisesTest {
         dueFault("first;;", 1, 6);
         dueFault("firststeep;", 1, 0);
         dueFault("first steep;", 1, 6);
+        dueFault("firstz;", 1, 0);
+        dueFault("first`;", 1, 5);
+        dueFault("first{;", 1, 5);
+        dueFault("arc 0 1 5 /;", 1, 10);
+        dueFault("arc 0 1 5 :;", 1, 10);
         dueFault("pivot 1;", 1, 0);
         dueFault("arc 0 1 5", 1, 9);
         dueFault("arc 0 1 5;", 1, 9);
@@ -534,6 +585,10 @@ public final class PromisesTest {
         due("work() refused at once", worked(x, "open 0;"), 0);
         due("work() refused at once", worked(x, "charge 0 2;"), 0);
         due("work() refused at once", worked(x, "widen 0 5;"), 0);
+        due("work() of 80 lines", worked(x, "cold;".repeat(80)), 80);
+        due("grid(7)", x.grid(7), 80);
+        due("work() of 80 lines, one short", worked(x, "cold;".repeat(79) + "cold"), -1);
+        due("fault(true)", x.fault(true), 399);
     }
 
     private void workFaults() {
