@@ -7,7 +7,10 @@ import java.util.NoSuchElementException;
 import java.util.function.IntSupplier;
 
 /**
- * What the boundary tests share. Each test stands behind a sentence of the document, quoted as it stands there: a quote
+ * What the boundary tests share. Nothing is promised behind an object's 512th call; the class does not count its calls,
+ * and tests that look at whole states lean on that.
+ *
+ * Each test stands behind a sentence of the document, quoted as it stands there: a quote
  * that the document does not hold is a fault of the test, and what no test quotes is told by uncovered().
  */
 abstract class Boundary {
@@ -239,6 +242,32 @@ abstract class Boundary {
         }
         for (int k = 0; k < 3; k++) {
             all.append("| apart ").append(x.apart(k));
+        }
+        return all.toString();
+    }
+
+    /** What questions of what is best, of trips and the like tell besides. */
+    static String asked(TreeFlows x) {
+        StringBuilder all = new StringBuilder();
+        all.append(x.bill(1)).append(' ').append(x.least()).append(' ').append(x.lack()).append(' ').append(x.cut());
+        for (int k = -1; k < 15; k++) {
+            all.append("| ").append(k).append(' ').append(x.thread(k)).append(' ').append(x.ledger(k, false)).append(' ')
+                .append(x.ledger(k, true)).append(' ').append(x.steps(k)).append(' ').append(x.next(k));
+            for (int w = 0; w < 18; w++) {
+                all.append(' ').append(x.trip(k, w));
+            }
+            all.append(' ').append(x.span(k, false)).append(' ').append(x.span(k, true));
+            for (int w = 0; w < 3; w++) {
+                all.append(' ').append(x.worth(k, w));
+            }
+        }
+        for (int p = 0; p < x.grid(0); p++) {
+            for (int q = 0; q < x.grid(0); q++) {
+                all.append("| ").append(x.wide(p, q)).append(' ').append(x.toll(p, q));
+                for (int w = 0; w < 18; w++) {
+                    all.append(' ').append(x.path(p, q, w));
+                }
+            }
         }
         return all.toString();
     }

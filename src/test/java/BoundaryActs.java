@@ -217,6 +217,12 @@ final class BoundaryActs extends Boundary {
         due("grid(10)", x.grid(10), 0);
         due("grid(11)", x.grid(11), 1);
         due("by calls", y.grid(11), 9);
+        for (int r = 0; r <= 2; r++) {
+            due("a RULE", worked(y, new String[] {"first;", "steep;", "round;"}[r]), 1);
+            due("grid(2)", y.grid(2), r);
+        }
+        due("the last RULE", worked(y, "round;first;round;steep;"), 4);
+        due("grid(2)", y.grid(2), 1);
         due("80 lines", worked(x, "cold;".repeat(80)), 80);
         due("grid(7)", x.grid(7), 85);
         due("fewer PIVOTS than told", worked(laid(THREE), "pivot 60;round;"), 2);
@@ -372,6 +378,16 @@ final class BoundaryActs extends Boundary {
             due("undo()", x.undo(), i);
         }
         due("the 11th latest stays", arcOf(x, 1, 3), 50);
+        for (int i = 0; i < 13; i++) {
+            yes("charge", x.charge(2, 20 + i));
+            no("a refused one takes no place", x.charge(2, 20 + i) || x.charge(2, 100) || x.shift(0, 0, 1));
+            due("a refused one takes no place", worked(x, "open 0;"), 0);
+        }
+        due("grid(11)", x.grid(11), 10);
+        for (int i = 9; i >= 0; i--) {
+            due("undo()", x.undo(), i);
+            due("arc(2,3)", arcOf(x, 2, 3), 22 + i);
+        }
     }
 
     private void undoNone() {

@@ -214,6 +214,17 @@ final class BoundaryBest extends Boundary {
             int arc = a;
             dueRow("of " + a, want[a], w -> x.worth(arc, w));
         }
+        x.pivots(60);
+        for (int a = 0; a < 3; a++) {
+            int arc = a;
+            dueRow("at the best, of " + a, want[a], w -> x.worth(arc, w));
+        }
+        x.shift(2, 0, 4);
+        dueRow("two are wanted: of 0", new int[] {0, 8, 2}, w -> x.worth(0, w));
+        x.pivots(60);
+        dueRow("at the best: of 0", new int[] {0, 8, 2}, w -> x.worth(0, w));
+        dueRow("at the best: of 1", new int[] {0, 8, 2}, w -> x.worth(1, w));
+        dueRow("at the best: of 2", new int[] {0, 0, 0}, w -> x.worth(2, w));
         TreeFlows y = laid("supply 0 99;want 1 99;arc 0 1 98 1;arc 0 1 99 99;arc 0 1 0 50;arc 0 1 9 0;block 3;");
         due("least()", y.least(), 98 + 99);
         dueRow("of 0", new int[] {-98, 98 * 98, 98}, w -> y.worth(0, w));
@@ -262,9 +273,18 @@ final class BoundaryBest extends Boundary {
                 due("toll(" + p + "," + q + ")", x.toll(p, q), want[p][q]);
             }
         }
+        x.pivots(60);
+        for (int p = 0; p < 3; p++) {
+            for (int q = 0; q < 3; q++) {
+                due("at the best: toll(" + p + "," + q + ")", x.toll(p, q), want[p][q]);
+            }
+        }
         TreeFlows y = laid("supply 0 99;want 1 99;arc 0 1 99 1;arc 0 1 9 5;");
-        due("100 and -100", y.toll(0, 1), 5);
-        due("98 and -98", y.toll(1, 0), -1);
+        for (int i = 0; i < 2; i++) {
+            due("100 and -100", y.toll(0, 1), 5);
+            due("98 and -98", y.toll(1, 0), -1);
+            y.pivots(60);
+        }
         sentence("-1000000: there is no PLAN then, or none now, no such POINTS, the same one twice.");
         for (int p = 0; p < 3; p++) {
             due("the same one twice", x.toll(p, p), NO_PLAN);
@@ -318,6 +338,14 @@ final class BoundaryBest extends Boundary {
         due("the RULE", x.grid(2), 0);
         yes("again(2)", x.again(2));
         due("the RULE", x.grid(2), 1);
+        Texts.spell(x, "points 3;");
+        x.image(0);
+        x.lay();
+        Texts.spell(x, "round;x");
+        x.again(0);
+        due("lay() of the TEXT that was kept, not of the later one", x.lay(), 0);
+        due("POINTS", x.grid(0), 3);
+        due("the RULE", x.grid(2), 0);
         x = told(" ".repeat(394) + "round;");
         x.image(0);
         x.lay();

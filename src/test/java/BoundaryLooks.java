@@ -333,9 +333,28 @@ final class BoundaryLooks extends Boundary {
         }
         x.undo();
         due("undone", x.past(0, 0), 0);
-        Texts.spell(x, THREE);
+        x.pivot();
+        x.cold();
+        x.charge(1, 99);
+        x.rule(1);
+        due("another one, the 31st", x.pivot(), 2);
+        dueRow("the 31st", new int[] {2, 2, 3}, w -> x.past(0, w));
+        x.undo();
+        dueRow("the 19th is told again", new int[] {1, 101, 0}, w -> x.past(11, w));
+        x.image(0);
+        x.pivots(60);
+        x.again(0);
+        dueRow("the 30th, kept", three[0], w -> x.past(0, w));
+        dueRow("the 19th, kept", three[2], w -> x.past(11, w));
+        Texts.spell(x, PAIR);
         x.lay();
         due("of a new text", x.past(0, 0), -1);
+        x.pivots(60);
+        dueRow("of a new text", new int[] {1, 101, 2}, w -> x.past(0, w));
+        due("of a new text", x.past(2, 0), -1);
+        x.again(0);
+        dueRow("the 30th, kept", three[0], w -> x.past(0, w));
+        dueRow("the 28th, kept", three[2], w -> x.past(2, w));
     }
 
     private void bill() {
@@ -478,6 +497,9 @@ final class BoundaryLooks extends Boundary {
         due("how many", y.trip(-1, 0), 2);
         dueTrip(y, 0, 2, 1, 2);
         dueTrip(y, 1, 3, 0, 2);
+        TreeFlows one = best("points 3;supply 1 1;want 2 1;arc 1 0 9 1;arc 0 2 9 1;");
+        due("how many", one.trip(-1, 0), 1);
+        dueTrip(one, 0, 1, 0, 1);
         // At 1 arc 1 comes ahead of arc 2; what arc 1 leaves goes by arc 2.
         TreeFlows z = best("points 4;supply 0 7;want 2 3;want 3 4;arc 0 1 9 1;arc 1 3 9 1;arc 1 2 9 1;");
         due("how many", z.trip(-1, 0), 2);
@@ -573,5 +595,10 @@ final class BoundaryLooks extends Boundary {
         yes("again(2)", x.again(2));
         due("three here, 14 there", x.apart(0), 14);
         due("three here, 14 EMPTY there", x.apart(1), 3);
+        x.lay();
+        due("no ARCS here, those of 4, 4, 2 there and ahead", x.apart(2), 3);
+        x.image(0);
+        x.again(2);
+        due("4, 4, 2 here, no ARCS there, 4, 4, 2 ahead of that", x.apart(0), 3);
     }
 }

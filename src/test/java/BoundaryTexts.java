@@ -29,6 +29,7 @@ final class BoundaryTexts extends Boundary {
         spell();
         spellFull();
         lay();
+        layBehindGreater();
         layWithFault();
         fault();
     }
@@ -190,6 +191,9 @@ final class BoundaryTexts extends Boundary {
                 dueFault(line, 1, 0);
             }
         }
+        for (String line : GRID_LINES) {
+            dueWord(line, false);
+        }
         dueFault("gain 0 9;", 1, 8);
         dueFault("3;", 1, 0);
         dueFault("point 3;", 1, 0);
@@ -209,6 +213,22 @@ final class BoundaryTexts extends Boundary {
                 dueOrderFault(texts[i], i == 0 ? 0 : 1, places[i]);
             } else {
                 dueFault(texts[i], i == 0 ? 0 : 1, places[i]);
+            }
+        }
+    }
+
+    /** With another letter at any place the word is none; nor is it with one more, or one less. */
+    private static void dueWord(String line, boolean orders) {
+        int end = line.replaceAll("[^a-z].*", "").length();
+        for (int i = 0; i < end; i++) {
+            String[] texts = {line.substring(0, i) + "q" + line.substring(i + 1), line.substring(0, i) + line.substring(i + 1),
+                line.substring(0, i) + "q" + line.substring(i)};
+            for (String text : texts) {
+                if (orders) {
+                    dueOrderFault(text, 1, 0);
+                } else {
+                    dueFault(text, 1, 0);
+                }
             }
         }
     }
@@ -351,6 +371,7 @@ final class BoundaryTexts extends Boundary {
         dueOrderFault("cold;".repeat(79) + ";", 1, 395);
         for (String line : ORDER_LINES) {
             dueForm(line, true);
+            dueWord(line, true);
         }
         for (String line : GRID_LINES) {
             if (!line.matches("(gain|first|steep|round).*")) {
@@ -489,6 +510,28 @@ final class BoundaryTexts extends Boundary {
         Texts.spell(x, "points 7;");
         due("lay()", x.lay(), 0);
         dueSupplies(x, 0, 0, 0, 0, 0, 0, 0);
+    }
+
+    /** Nothing of a greater grid is left in a smaller one: all answers are those of a new object. */
+    private void layBehindGreater() {
+        sentence("all is as told:");
+        String full = "points 7;" + "gain 6 5 9 9;gain 5 6 9 9;gain 0 1 9 9;gain 1 0 9 9;".repeat(3) + "gain 2 3 9 9;gain 3 2 9 9;"
+            + "supply 6 9;want 2 9;";
+        String[] smaller = {"", "points 3;", "arc 0 1 5 2;", "supply 0 3;want 1 3;arc 0 1 5 2;block 0;", THREE, PAIR,
+            "gain 0 1 9 9;gain 1 0 9 9;", "supply 0 9;want 1 9;" + "arc 0 1 1 1;".repeat(13)};
+        for (String text : smaller) {
+            for (int pivots = 0; pivots <= 3; pivots++) {
+                TreeFlows x = best(full);
+                TreeFlows y = laid(text);
+                Texts.spell(x, text);
+                due("lay()", x.lay(), y.grid(1));
+                for (int i = 0; i < pivots; i++) {
+                    due("pivot()", x.pivot(), y.pivot());
+                }
+                due("all of " + text, seen(x), seen(y));
+                due("all of " + text, asked(x), asked(y));
+            }
+        }
     }
 
     private void layWithFault() {

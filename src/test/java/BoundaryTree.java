@@ -237,6 +237,11 @@ final class BoundaryTree extends Boundary {
         due("none", x.pivot(), -1);
         TreeFlows y = laid(grid);
         dueRow("first", new int[] {1, 2, 3, 4, -1}, k -> y.pivot());
+        String near = "gain 0 1 5 1;gain 0 1 5 9;";
+        due("first, though it is but 1 from 0", laid(near).next(0), 0);
+        due("round, though it is but 1 from 0", laid(near + "round;").next(0), 0);
+        due("steep", laid(near + "steep;").next(0), 1);
+        due("steep of 1", laid("arc 0 1 5 0;gain 0 1 5 1;steep;").next(0), 1);
     }
 
     private void roundWrap() {
