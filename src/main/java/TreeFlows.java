@@ -710,7 +710,6 @@ public final class TreeFlows {
             int loan = MOST_ARCS + point;
             tail[loan] = rest >= 0 ? point : ROOT;
             head[loan] = rest >= 0 ? ROOT : point;
-            bound[loan] = NO_BOUND;
             cost[loan] = LOAN_COST;
             flow[loan] = Math.abs(rest);
             state[loan] = IN_TREE;

@@ -515,17 +515,19 @@ final class BoundaryTexts extends Boundary {
     /** Nothing of a greater grid is left in a smaller one: all answers are those of a new object. */
     private void layBehindGreater() {
         sentence("all is as told:");
-        String full = "points 7;" + "gain 6 5 9 9;gain 5 6 9 9;gain 0 1 9 9;gain 1 0 9 9;".repeat(3) + "gain 2 3 9 9;gain 3 2 9 9;"
-            + "supply 6 9;want 2 9;";
-        String[] smaller = {"", "points 3;", "arc 0 1 5 2;", "supply 0 3;want 1 3;arc 0 1 5 2;block 0;", THREE, PAIR,
+        String[] greater = {"gain 0 1 9 9;gain 1 0 9 9;".repeat(7), "gain 1 0 9 9;gain 0 1 9 9;".repeat(7),
+            "points 7;" + "gain 6 5 9 9;gain 5 6 9 9;gain 0 1 9 9;gain 1 0 9 9;".repeat(3) + "gain 2 3 9 9;gain 3 2 9 9;"
+            + "supply 6 9;want 2 9;"};
+        String[] smaller = {"", "points 3;", "supply 0 3;want 1 3;", "supply 1 3;want 0 3;", "arc 0 1 5 2;",
+            "supply 0 3;want 1 3;arc 0 1 5 2;", "supply 0 3;want 1 3;arc 0 1 5 2;block 0;", THREE, PAIR,
             "gain 0 1 9 9;gain 1 0 9 9;", "supply 0 9;want 1 9;" + "arc 0 1 1 1;".repeat(13)};
         for (String text : smaller) {
-            for (int pivots = 0; pivots <= 3; pivots++) {
-                TreeFlows x = best(full);
+            for (int i = 0; i < greater.length * 4; i++) {
+                TreeFlows x = best(greater[i % greater.length]);
                 TreeFlows y = laid(text);
                 Texts.spell(x, text);
                 due("lay()", x.lay(), y.grid(1));
-                for (int i = 0; i < pivots; i++) {
+                for (int pivots = i / greater.length; pivots > 0; pivots--) {
                     due("pivot()", x.pivot(), y.pivot());
                 }
                 due("all of " + text, seen(x), seen(y));
