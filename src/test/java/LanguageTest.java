@@ -10,6 +10,8 @@ import java.util.Arrays;
 import java.util.List;
 import java.util.Set;
 import java.util.TreeSet;
+import java.util.regex.Matcher;
+import java.util.regex.Pattern;
 
 /** The rules of LANGUAGE.md that can be seen from outside: the face, the words of the source, the methods' sizes. */
 public final class LanguageTest {
@@ -19,6 +21,12 @@ public final class LanguageTest {
         "instanceof", "System.out", "Exact(", "String.format", "hashCode", "toString", "import java.util.*", "Random",
         "currentTimeMillis", "nanoTime", "Thread", "double", "float", "static {"};
 
+    // Of what rule 4 lists the part that the class needs; more of it may be added here.
+    private static final Set<String> LIBRARY = Set.of("Math.max", "Math.min", "Math.abs", "Integer.bitCount",
+        "Integer.MIN_VALUE", "Integer.MAX_VALUE", "System.arraycopy");
+    private static final Pattern LIBRARY_USE =
+        Pattern.compile("\\b(Math|Integer|Long|System|Arrays|Character|String|StringBuilder|List|java)\\.\\w+");
+
     private static int wrong;
 
     public static void main(String[] args) throws IOException {
@@ -26,6 +34,7 @@ public final class LanguageTest {
         checkNames();
         List<String> lines = Files.readAllLines(SOURCE);
         checkWords(lines);
+        checkLibrary(lines);
         checkMethodSizes(lines);
         checkMaking(lines);
         System.out.println(wrong == 0 ? "the source keeps to the rules looked at" : wrong + " rules broken");
@@ -128,6 +137,22 @@ public final class LanguageTest {
                 boolean found = form == null ? code.contains(word) : code.matches(form);
                 if (found) {
                     complain("line " + (i + 1) + " holds " + word + ": " + code.trim());
+                }
+            }
+        }
+    }
+
+    private static void checkLibrary(List<String> lines) {
+        for (int i = 0; i < lines.size(); i++) {
+            String line = lines.get(i);
+            boolean imports = line.startsWith("import ");
+            if (imports && !line.equals("import java.util.NoSuchElementException;")) {
+                complain("line " + (i + 1) + " imports what rule 4 does not list: " + line);
+            }
+            Matcher use = LIBRARY_USE.matcher(line);
+            while (!imports && use.find()) {
+                if (!LIBRARY.contains(use.group())) {
+                    complain("line " + (i + 1) + " uses what rule 4 does not list: " + use.group());
                 }
             }
         }

@@ -72,6 +72,8 @@ public final class RandomRunsTest {
         for (int i = 0; i < text.length();) {
             int n = Math.min(1 + upTo(8), text.length() - i);
             long eight = Texts.eight(text.substring(i, i + n));
+            // What stands behind a byte 0 does not count.
+            eight |= n < 7 && upTo(4) == 0 ? upTo(256) : 0;
             due("spell(" + eight + ")", x.spell(eight), slow.spell(eight));
             i += n;
         }
@@ -80,14 +82,17 @@ public final class RandomRunsTest {
     private String gridText() {
         StringBuilder text = new StringBuilder();
         int points = 2 + upTo(6);
-        text.append("points ").append(points).append(';');
+        boolean late = upTo(5) == 0;
+        text.append(late ? "" : "points" + blank() + points + ";");
         int arcs = upTo(4) == 0 ? upTo(15) : 4 + upTo(11);
         int costs = upTo(2) == 0 ? 4 : 99;
+        int bounds = upTo(3) == 0 ? 3 : 99;
         for (int a = 0; a < arcs; a++) {
             int from = upTo(points);
             int to = (from + 1 + upTo(points - 1)) % points;
-            text.append(upTo(4) == 0 ? "gain " : "arc ").append(from).append(' ').append(to).append(' ');
-            text.append(number(99)).append(' ').append(number(costs)).append(upTo(5) == 0 ? " ;\n" : ";");
+            text.append(upTo(4) == 0 ? "gain" : "arc").append(blank()).append(digits(from)).append(' ');
+            text.append(digits(to)).append(' ').append(digits(number(bounds))).append(blank().isEmpty() ? '\n' : ' ');
+            text.append(digits(number(costs))).append(upTo(5) == 0 ? " ;\n" : ";");
             if (upTo(12) == 0) {
                 text.append("block ").append(upTo(a + 1)).append(';');
             }
@@ -101,8 +106,17 @@ public final class RandomRunsTest {
             }
         }
         text.append(sum > 0 ? "want " : "supply ").append(points - 1).append(' ').append(Math.abs(sum)).append(';');
+        text.append(late ? "points " + points + ";" : "");
         text.append(new String[] {"first;", "steep;", "round;", ""}[upTo(4)]);
         return text.toString();
+    }
+
+    private String blank() {
+        return upTo(6) == 0 ? "" : upTo(6) == 0 ? " \n" : " ";
+    }
+
+    private String digits(int n) {
+        return n < 10 && upTo(8) == 0 ? "0" + n : "" + n;
     }
 
     private String orderText() {
